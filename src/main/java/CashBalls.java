@@ -16,6 +16,7 @@ public final class CashBalls {
     private static final int MOST_SEEN = 8;
     private static final int MOST_SEEN_DAYS = 30;
     private static final int MOST_DAYS = 60;
+    private static final int MOST_ODD_DAYS = 6;
     private static final int MOST_MARKS = 4;
     private static final int FARTHEST = 20;
     private static final int LARGEST = 60;
@@ -377,14 +378,10 @@ public final class CashBalls {
     }
 
     public int chance(int ball, int days, int odds) {
-        if (!shop.hasBall(ball) || !within(days, 1, 6) || !within(odds, 0, 10)) {
+        if (!shop.hasBall(ball) || !within(days, 1, MOST_ODD_DAYS) || !within(odds, 0, 10)) {
             return NONE;
         }
-        int millionths = foresight.homeByOdds(ball, now.sizes[ball], 0, days, odds);
-        for (int i = days; i < 6; i++) {
-            millionths *= 10;
-        }
-        return millionths;
+        return foresight.millionthsHome(ball, days, odds);
     }
 
     public int rests(int lose, int counts, int not, int what) throws NoSuchElementException {
@@ -1678,8 +1675,17 @@ public final class CashBalls {
             return many;
         }
 
+        /** Six days by tenths are millionths already; fewer are made so. */
+        int millionthsHome(int ball, int days, int odds) {
+            int millionths = homeByOdds(ball, now.sizes[ball], 0, days, odds);
+            for (int i = days; i < MOST_ODD_DAYS; i++) {
+                millionths *= 10;
+            }
+            return millionths;
+        }
+
         /** In how many of 10 to the power of the days left the ball falls at home behind them. */
-        int homeByOdds(int ball, int size, int daysGone, int daysLeft, int odds) {
+        private int homeByOdds(int ball, int size, int daysGone, int daysLeft, int odds) {
             if (daysLeft <= 0) {
                 return shop.fall(size, now.gaps) == shop.homes[ball] ? 1 : 0;
             }

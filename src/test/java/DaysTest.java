@@ -66,6 +66,7 @@ final class DaysTest {
         CashBalls z = Due.opened("counter a at 1 gap 2;ball p plain size 1 home a;wears 0-(date=59);");
         DUE.is("2 behind 60 days", z.later(0, 60), 2);
         DUE.is("never", z.stray(0), -1);
+        DUE.is("so large by 60", z.over(0, 2), 60);
         DUE.is("none by 60", z.first(), -1);
         z.set(0, 1);
         DUE.is("by 60", z.stray(0), 60);

@@ -65,6 +65,8 @@ final class DrawsTest {
         rests(0, 5, 0, 1, 2, 3);
         rests(1, 0, 1, 0, 1, 2);
         rests(9, 9, 9, 1, 2);
+        rests(0, 5, 3, 1, 2);
+        rests(0, 0, 3, 0, 1, 2);
     }
 
     private static void wrongRests() {

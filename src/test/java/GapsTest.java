@@ -52,6 +52,14 @@ final class GapsTest {
         DUE.is("span(4, 0)", x.span(4, 0), -1);
         DUE.is("span(-1, 0)", x.span(-1, 0), -1);
         DUE.is("no size, not no ball", x.idle(), 12);
+        x.set(3, 1);
+        DUE.is("size 1 alone", x.span(3, 0), 1);
+        DUE.is("size 1 alone", x.span(3, 1), 1);
+        x.set(1, 60);
+        x.set(3, 59);
+        DUE.is("size 60 alone", x.span(1, 0), 60);
+        DUE.is("size 60 alone", x.span(1, 1), 60);
+        DUE.is("none is left for far", x.idle(), 5);
     }
 
     private static void crowds() {
@@ -97,6 +105,11 @@ final class GapsTest {
         DUE.is("trim(-2)", x.trim(-2), -2);
         DUE.is("nothing is set", x.counter(0, 1), 5);
         DUE.is("nothing to undo", x.count(12), 0);
+        CashBalls worn = Due.opened("counter a at 3 gap 7;ball p plain size 60 home a;wears 1;");
+        DUE.is("size 60", worn.trim(0), 60);
+        worn.day();
+        DUE.is("one ball", worn.trim(-1), 1);
+        DUE.is("size 59", worn.trim(0), 59);
         CashBalls none = Due.opened("counter a at 3 gap 7;counter b at 1 gap 9;");
         DUE.is("without balls none goes home", none.trim(-1), 0);
         DUE.is("all gaps are 0", none.trim(0), 0);

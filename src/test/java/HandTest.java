@@ -295,6 +295,15 @@ final class HandTest {
         judged("send bl;day;carry bl lace;", -1, 1, 0);
         judged("set silk 1;set hose 1;set lace 1;set glove 1;send bs;send bl;day;send bs;", 7, 6, 2);
         judged("send bs;beat;beat;beat;beat;beat;set silk 0;beat;beat;beat;send bs;day;", -1, 11, 1);
+        CashBalls served = Due.opened("counter a at 1 gap 9;counter b at 3 gap 20;ball p plain size 5 home a;desk 3;");
+        Due.run(served, "send p;beat;beat;beat;beat;set a 0;beat;");
+        served.send(0);
+        served.beat();
+        served.beat();
+        DUE.is("rest, while it is served", served.rest(), 3);
+        DUE.is("none is served at the beginning", served.judged(1), -1);
+        Due.shop(served, "counter a at 1 gap 9;counter b at 3 gap 20;ball p plain size 5 home a;desk 3;");
+        DUE.is("nor in a new shop", served.trip(0), 5);
         CashBalls x = new CashBalls();
         DUE.is("judged(3)", x.judged(3), -2);
         DUE.is("judged(-1)", x.judged(-1), -2);

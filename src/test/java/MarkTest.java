@@ -4,6 +4,7 @@ final class MarkTest {
 
     public static void main(String[] args) {
         marks();
+        seenOnMarks();
         counts();
         DUE.end();
     }
@@ -56,6 +57,25 @@ final class MarkTest {
         x.feed(0x2020L, 0, 0);
         x.mark(0, true);
         DUE.is("the tape is not on it", x.count(13), 2);
+    }
+
+    private static void seenOnMarks() {
+        CashBalls x = Due.opened(Due.DRAPER);
+        Due.run(x, "beat;carry bs hose;");
+        x.mark(0, false);
+        x.see(1, 0, true);
+        x.mark(1, false);
+        DUE.is("who fell at hose", x.who(), 6);
+        x.mark(0, true);
+        DUE.is("nothing seen", x.who(), 15);
+        x.see(0, 2, false);
+        Due.run(x, "carry bs lace;carry bs lace;");
+        DUE.is("who did not fall at silk", x.who(), 14);
+        DUE.is("a line that can't be", x.judged(0), 1);
+        x.mark(1, true);
+        DUE.is("as it was seen then", x.who(), 6);
+        DUE.is("the run of then", x.judged(0), -1);
+        DUE.is("the run of then", x.judged(1), 1);
     }
 
     private static void counts() {

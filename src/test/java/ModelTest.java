@@ -207,20 +207,25 @@ final class ModelTest {
 
     /** Mostly one that is there. */
     private int ball() {
-        return below(10) == 0 ? below(10) - 2 : below(Math.max(1, m.told.balls.size()));
+        return below(10) == 0 ? stranger() : below(Math.max(1, m.told.balls.size()));
     }
 
     private int counter() {
-        return below(10) == 0 ? below(10) - 2 : below(Math.max(1, m.told.counters.size()));
+        return below(10) == 0 ? stranger() : below(Math.max(1, m.told.counters.size()));
+    }
+
+    private int stranger() {
+        int[] far = {Integer.MIN_VALUE, Integer.MAX_VALUE, -61, 61, 1 << 16};
+        return below(3) == 0 ? far[below(far.length)] : below(10) - 2;
     }
 
     private void act() {
         int b = ball();
         int c = counter();
-        int gap = below(20) == 0 ? below(100) - 20 : below(61);
-        int k = below(6) - 1;
+        int gap = below(20) == 0 ? 60 * stranger() : below(61);
+        int k = below(20) == 0 ? stranger() : below(4);
         boolean yes = random.nextBoolean();
-        int days = below(20) == 0 ? below(80) - 20 : below(31);
+        int days = below(20) == 0 ? 31 * stranger() : below(31);
         switch (below(14)) {
             case 0, 1, 2, 3 -> due("send(" + b + ")", x.send(b), m.send(b));
             case 4, 5, 6, 7 -> due("beat()", x.beat(), m.beat());
@@ -236,12 +241,12 @@ final class ModelTest {
     private void ask() {
         int b = ball();
         int c = counter();
-        int size = below(8) == 0 ? below(100) - 20 : 1 + below(60);
-        int days = below(8) == 0 ? below(100) - 20 : below(61);
-        int few = below(9) - 1;
-        int odds = below(13) - 1;
-        int what = below(16) - 1;
-        int i = below(8) - 2;
+        int size = below(8) == 0 ? 61 * stranger() : 1 + below(60);
+        int days = below(8) == 0 ? 61 * stranger() : below(61);
+        int few = below(8) == 0 ? stranger() : 1 + below(6);
+        int odds = below(8) == 0 ? 11 * stranger() : below(11);
+        int what = below(8) == 0 ? 14 * stranger() : below(14);
+        int i = below(8) == 0 ? stranger() : below(8) - 2;
         switch (below(30)) {
             case 0 -> due("counter(" + c + ", " + i + ")", x.counter(c, i), m.counter(c, i));
             case 1, 2 -> due("ball(" + b + ", " + i + ")", x.ball(b, i), m.ball(b, i));
@@ -284,14 +289,14 @@ final class ModelTest {
     }
 
     private void draws() {
-        int seed = below(10) == 0 ? below(12000) - 1000 : below(10000);
-        int many = below(10) == 0 ? below(130) - 15 : 1 + below(99);
-        int what = below(10) == 0 ? below(8) - 3 : below(3);
+        int seed = below(10) == 0 ? 10000 * stranger() : below(10000);
+        int many = below(10) == 0 ? 100 * stranger() : 1 + below(99);
+        int what = below(10) == 0 ? stranger() : below(3);
         due("weeks(" + seed + ", " + many + ", " + what + ")", x.weeks(seed, many, what), m.weeks(seed, many, what));
         int lose = below(11) - below(2);
         int counts = below(11) - below(2);
         int not = below(11) - below(2);
-        int which = below(6) - 2;
+        int which = below(8) == 0 ? stranger() : below(5) - 1;
         due("rests(" + lose + ", " + counts + ", " + not + ", " + which + ")", rests(lose, counts, not, which, false),
             rests(lose, counts, not, which, true));
     }

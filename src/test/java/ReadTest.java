@@ -15,6 +15,7 @@ final class ReadTest {
         runs();
         shopBeginsAnew();
         faultLeavesAll();
+        fullTapes();
         DUE.end();
     }
 
@@ -205,6 +206,22 @@ final class ReadTest {
         run(forty + " day", 5, 201);
         run(forty + "foo;", 1, 200);
         run(forty + ";", 1, 200);
+    }
+
+    private static void fullTapes() {
+        shop(";".repeat(1000), 1, 0);
+        shop("desk 1;" + "\n".repeat(993), 0, 0);
+        shop("wears " + "(".repeat(994), 5, 11);
+        shop("wears " + "1+".repeat(496) + "1;", 0, 0);
+        shop("wears " + "1+".repeat(496) + "10;", 1, 1000);
+        shop("a".repeat(1000), 1, 0);
+        shop("desk " + "1".repeat(995), 1, 5);
+        String law = "wears " + "1+".repeat(450) + "1-448;";
+        CashBalls x = Due.opened("counter a at 1 gap 9;ball b plain size 9 home a;" + law);
+        DUE.is("451 - 448", x.later(0, 1), 6);
+        CashBalls y = Due.opened(Due.DRAPER);
+        DUE.is("a full tape of a run", Due.run(y, "beat;".repeat(39) + " ".repeat(800) + "beat;"), 0);
+        DUE.is("forty lines", y.count(10), 40);
     }
 
     private static void shopBeginsAnew() {

@@ -1702,7 +1702,7 @@ public final class CashBalls {
         final State now;
         final int[] planned = new int[MOST_COUNTERS];
         final int[] exchanged = new int[MOST_COUNTERS];
-        /** By counters along the rail, and the widest gap ahead of them: balls that go home from there on, and the gap for it. */
+        /** By the counters along the rail and the widest gap ahead of them: the most balls that go home from there on. */
         final int[][] best = new int[MOST_COUNTERS + 1][LARGEST + 1];
         final int[][] choice = new int[MOST_COUNTERS][LARGEST + 1];
         final int[][] homeSizes = new int[MOST_COUNTERS][LARGEST + 1];

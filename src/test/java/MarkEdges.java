@@ -12,6 +12,7 @@ final class MarkEdges {
         m.noneSuch();
         m.nothingIsOnIt();
         m.hold();
+        m.holdMost();
         m.nothingCanBeUndone();
         m.laidAnew();
         m.count();
@@ -111,6 +112,33 @@ final class MarkEdges {
         empty.beat();
         edges.is("of nothing", empty.mark(0, true), true);
         edges.is("beat", empty.count(3), 0);
+    }
+
+    /** The last SEEN and the last line are the ones by which the full rows can be told from shorter ones. */
+    private void holdMost() {
+        edges.of(41, "mark", "what is SEEN");
+        CashBalls x = Due.opened(Edges.six());
+        x.mark(0, false);
+        for (int i = 0; i < 7; i++) {
+            x.see(0, 0, false);
+        }
+        x.see(1, 30, false);
+        Due.run(x, "beat;".repeat(38) + "send ba;send ba;");
+        x.mark(3, false);
+        edges.is("back to 0", x.mark(0, true), true);
+        edges.is("nothing SEEN", x.count(11), 0);
+        edges.is("no lines", x.count(10), 0);
+        for (int i = 0; i < 8; i++) {
+            x.see(5, 0, true);
+        }
+        Due.run(x, "day;".repeat(40));
+        edges.is("only bf", x.who(), 32);
+        edges.is("forth to 3", x.mark(3, true), true);
+        edges.is("8 SEEN", x.count(11), 8);
+        edges.is("all but ba and bb", x.who(), 60);
+        edges.is("a ninth", x.see(1, 0, false), false);
+        edges.is("40 lines", x.count(10), 40);
+        edges.is("the last line can't be", x.judged(0), 39);
     }
 
     private void nothingCanBeUndone() {
